@@ -131,6 +131,8 @@ public final class CheapestTest {
         d.thing(1, 0, 3, 5);
         d.thing(1, 1, 3, 8);
         d.thing(1, 2, 9, 9);
+        d.thing(2, 2, 9, 12);
+        d.thing(2, 3, 1, 15);
         d.tie(0, 1);
         d.tie(1, 2);
         d.tie(5, 0);
@@ -147,7 +149,7 @@ public final class CheapestTest {
         }
         int told = 0;
         for (int words = ALL_WORDS; words > 0; words -= 3001) {
-            for (int set = 0; set < 64; set++) {
+            for (int set = 0; set < 256; set++) {
                 int length = d.cheapest(set, words, -2);
                 if (length < 0 || length > 24) {
                     continue;
@@ -166,7 +168,7 @@ public final class CheapestTest {
                 told++;
             }
         }
-        DUE.is("promise 13: many were told", told > 300 ? 1 : 0, 1);
+        DUE.is("promise 13: many were told", told > 1000 ? 1 : 0, 1);
     }
 
     /** Ties in a ring with a short cut: sayings of many more words than a text may have. */
@@ -202,6 +204,15 @@ public final class CheapestTest {
             dearest = Math.max(dearest, d.cheapest(set, words, -1));
         }
         DUE.is("promise 13: dear ones are counted", dearest <= 999 && dearest > 800 ? 1 : 0, 1);
+        d.price(3, 3);
+        d.price(5, 7);
+        d.price(9, 8);
+        DUE.is("promise 13: costs 999", d.cheapest(117, words, -1), 999);
+        DUE.is("promise 14: with that of 999", d.sets(words), 191);
+        d.price(3, 2);
+        d.price(5, 9);
+        cheapest(d, 117, words, GreenDoor.NONE);
+        DUE.is("promise 14: without that of 1000", d.sets(words), 189);
     }
 
     private static void sets() {
@@ -209,13 +220,13 @@ public final class CheapestTest {
         DUE.is("promise 14: no words", d.sets(0), 0);
         DUE.is("promise 14: all", d.sets(1), 1);
         DUE.is("promise 14: all, not", d.sets(1 + NOT), 2);
-        DUE.is("promise 14: kinds", d.sets(KIND), 3);
+        DUE.is("promise 14: kinds", d.sets(KIND), 4);
         DUE.is("promise 14: colours", d.sets(COLOUR), 4);
-        DUE.is("promise 14: kinds and not", d.sets(KIND + NOT), 4);
+        DUE.is("promise 14: kinds and not", d.sets(KIND + NOT), 8);
         DUE.is("promise 14: leftmost", d.sets(4096), 0);
         DUE.is("promise 14: all, leftmost", d.sets(4097), 2);
         DUE.is("promise 14: all, second", d.sets(8193), 3);
-        DUE.is("promise 14: everything", d.sets(ALL_WORDS), 64);
+        DUE.is("promise 14: everything", d.sets(ALL_WORDS), 256);
         DUE.is("promise 14: outside", d.sets(-1), GreenDoor.OUTSIDE);
         DUE.is("promise 14: outside", d.sets(32768), GreenDoor.OUTSIDE);
     }

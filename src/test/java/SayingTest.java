@@ -101,6 +101,13 @@ public final class SayingTest {
         fault("and all any", 8);
         fault("and any any", 4);
         fault("all \u00ff", 4);
+        fault("\u00e1ll", 0);
+        fault("all \u00a0", 4);
+        fault("ill", 0);
+        fault("xind 1", 0);
+        fault("allz", 0);
+        fault("kind 09", 5);
+        fault("kind 90", 5);
         fault("not {all", 4);
         fault("not `", 4);
         fault("kind :", 5);

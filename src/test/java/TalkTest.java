@@ -125,6 +125,8 @@ public final class TalkTest {
         worth(d, 1, 9, 9, 1);
         d.paint(0, 3, 6);
         worth(d, 1, 9, 9, 0);
+        d.paint(0, 3, 3);
+        worth(d, 1, 9, 9, 2);
         d.paint(0, 3, 7);
         worth(d, 1 + MARK, 1, GreenDoor.NONE, GreenDoor.NONE);
     }

@@ -10,6 +10,7 @@ public final class ThoughtTest {
         ends();
         wrong();
         wrongSets();
+        wrongOfEight();
         DUE.end();
     }
 
@@ -37,6 +38,7 @@ public final class ThoughtTest {
         breaks(d, "least colour 3", 3);
         breaks(d, "only colour 2", 2);
         breaks(d, "or all colour 2", GreenDoor.NONE);
+        breaks(d, "or or colour 0 colour 1 or colour 2 colour 3", GreenDoor.NONE);
         breaks(d, "and all", GreenDoor.NOT);
         breaks(d, "", GreenDoor.NOT);
         DUE.is("promise 17: colours stay", d.of(0, 1) * 100 + d.of(1, 1) * 10 + d.of(2, 1), 13);
@@ -136,6 +138,18 @@ public final class ThoughtTest {
         d.price(1, 3);
         tells(d, 0, 2, 0);
         tells(d, 20, 2, 0);
+    }
+
+    private static void wrongOfEight() {
+        GreenDoor d = new GreenDoor();
+        for (int i = 0; i < 8; i++) {
+            d.thing(i / 4, 0, 1, i);
+        }
+        wrong(d, "or all kind 0", 255, 3, 5);
+        wrong(d, "and kind 0 all", 0, 3, 5);
+        wrong(d, "leftmost kind 1", 0, 2, 4);
+        wrong(d, "or kind 1 kind 1", 240, 5, 8);
+        wrong(d, "not kind 0", 255, 2, 3);
     }
 
     /** The one said is among the fewest and stays so when fewer are meant, so that one thought is enough. */
