@@ -39,13 +39,13 @@ final class PlainDoor {
         }
     }
 
-    private record Found(int cost, List<Integer> codes) { }
-
     private final List<Thing> things = new ArrayList<>();
     private final int[] prices = new int[15];
     private final StringBuilder text = new StringBuilder();
     private final List<Saying> kept = new ArrayList<>();
     private final List<Integer> named = new ArrayList<>();
+    private Map<Integer, List<Integer>> found;
+    private String foundFor = "";
 
     PlainDoor() {
         Arrays.fill(prices, 1);
@@ -221,17 +221,30 @@ final class PlainDoor {
         if (set < 0 || set >= 1 << things.size() || areNoWords(words) || i < -2) {
             return OUTSIDE;
         }
-        Found found = sayings(words).get(set);
-        if (found == null) {
+        List<Integer> codes = codes(set, words);
+        if (codes.isEmpty()) {
             return NONE;
         }
         if (i == -1) {
-            return found.cost;
+            return codes.stream().mapToInt(code -> prices[code / 8]).sum();
         }
         if (i == -2) {
-            return found.codes.size();
+            return codes.size();
         }
-        return i < found.codes.size() ? found.codes.get(i) : NONE;
+        return i < codes.size() ? codes.get(i) : NONE;
+    }
+
+    /** The cheapest saying for a set; empty if there is none. */
+    List<Integer> codes(int set, int words) {
+        String key = words + " " + Arrays.toString(prices);
+        for (Thing t : things) {
+            key += ";" + t.kind + "," + t.colour + "," + t.size + "," + t.marks + Arrays.toString(t.ties);
+        }
+        if (!key.equals(foundFor)) {
+            found = sayings(words);
+            foundFor = key;
+        }
+        return found.getOrDefault(set, List.of());
     }
 
     int sets(int words) {
@@ -748,20 +761,20 @@ final class PlainDoor {
     }
 
     /** The cheapest sayings themselves, the cheaper ones first, each compared word by word. */
-    private Map<Integer, Found> sayings(int words) {
+    private Map<Integer, List<Integer>> sayings(int words) {
         int[] costs = costs(words);
-        Map<Integer, Found> found = new HashMap<>();
+        Map<Integer, List<Integer>> found = new HashMap<>();
         for (int cost = 1; cost < 1000; cost++) {
             for (int set = 0; set < costs.length; set++) {
                 if (costs[set] == cost) {
-                    found.put(set, new Found(cost, first(set, words, costs, found)));
+                    found.put(set, first(set, words, costs, found));
                 }
             }
         }
         return found;
     }
 
-    private List<Integer> first(int set, int words, int[] costs, Map<Integer, Found> found) {
+    private List<Integer> first(int set, int words, int[] costs, Map<Integer, List<Integer>> found) {
         List<Integer> first = null;
         for (int word = 0; word < 15; word++) {
             if (!in(words, word) || first != null) {
@@ -781,9 +794,9 @@ final class PlainDoor {
                     int cost = prices[word] + costs[s] + (arity(word) == 2 ? costs[r] : 0);
                     if (cost == costs[set] && made(word, s, r) == set) {
                         List<Integer> codes = new ArrayList<>(List.of(8 * word));
-                        codes.addAll(found.get(s).codes);
+                        codes.addAll(found.get(s));
                         if (arity(word) == 2) {
-                            codes.addAll(found.get(r).codes);
+                            codes.addAll(found.get(r));
                         }
                         first = first == null || Arrays.compare(numbers(codes), numbers(first)) < 0 ? codes : first;
                     }
