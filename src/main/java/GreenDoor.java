@@ -16,8 +16,8 @@ public final class GreenDoor {
     private final int[] prices = new int[Words.COUNT];
     private final Text text = new Text();
     private final Saying[] shelf = new Saying[SHELF];
-    private final Ways ways = new Ways(scene, prices);
-    private final BestMark bestMark = new BestMark(scene, prices);
+    private final Ways ways = new Ways();
+    private final BestMark bestMark = new BestMark();
     private final Twins twins = new Twins();
     private final Hearer hearer = new Hearer();
     private final Misheard misheard = new Misheard();
@@ -193,7 +193,7 @@ public final class GreenDoor {
 
     private Ways waysWith(int words) {
         if (ways.madeAt != changes || ways.words != words) {
-            ways.fill(words, false);
+            ways.fill(scene, prices, words, false);
             ways.madeAt = changes;
         }
         return ways;
@@ -303,10 +303,10 @@ public final class GreenDoor {
             return OUTSIDE;
         }
         if (what == 0) {
-            return waysWith(words).worthOfThings();
+            return waysWith(words).worthOf(scene.things);
         }
         if (bestMark.madeAt != changes || bestMark.words != words) {
-            bestMark.find(words);
+            bestMark.find(scene, prices, words);
             bestMark.madeAt = changes;
         }
         return what == 1 ? bestMark.least : bestMark.mark;
@@ -726,8 +726,6 @@ public final class GreenDoor {
         private static final int LIMIT = 1000;
         private static final int UNCOUNTED = 50;
 
-        private final Scene scene;
-        private final int[] prices;
         final int[] costs = new int[SETS];
         final int[] lengths = new int[SETS];
         // A way is a code, the first part's set and the second part's set: code << 16 | first << 8 | second.
@@ -743,11 +741,6 @@ public final class GreenDoor {
         // No way dearer than this can change what is wanted.
         private int dearest;
         private int leastJoin;
-
-        Ways(Scene scene, int[] prices) {
-            this.scene = scene;
-            this.prices = prices;
-        }
 
         boolean isReached(int set) {
             return isWithin(set, SETS) && ranks[set] != NONE;
@@ -770,19 +763,19 @@ public final class GreenDoor {
             return ways[at] >> 16;
         }
 
-        int worthOfThings() {
+        int worthOf(int things) {
             int worth = 0;
-            for (int i = 0; i < scene.things && i < THINGS; i++) {
+            for (int i = 0; i < things && i < THINGS; i++) {
                 worth += isReached(1 << i) ? costs[1 << i] : UNCOUNTED;
             }
             return worth;
         }
 
         /** Finds the ways to all sets, or only those that the sets of one thing need. */
-        void fill(int words, boolean thingsAlone) {
+        void fill(Scene scene, int[] prices, int words, boolean thingsAlone) {
             this.words = words;
             this.thingsAlone = thingsAlone;
-            start();
+            start(scene, prices);
             int all = scene.all();
             for (int round = 0; round <= all; round++) {
                 int set = nearest(all);
@@ -790,12 +783,12 @@ public final class GreenDoor {
                     return;
                 }
                 reach(set);
-                turn(set);
-                joinAll(set);
+                turn(scene, prices, set);
+                joinAll(prices, set);
             }
         }
 
-        private void start() {
+        private void start(Scene scene, int[] prices) {
             reached = 0;
             Arrays.fill(costs, LIMIT);
             Arrays.fill(ranks, NONE);
@@ -805,18 +798,18 @@ public final class GreenDoor {
                     continue;
                 }
                 if (Words.parts(word) == 0) {
-                    offerNamed(word);
+                    offerNamed(scene, prices[word], word);
                 } else if (Words.parts(word) == 2) {
                     leastJoin = Math.min(leastJoin, prices[word]);
                 }
             }
         }
 
-        private void offerNamed(int word) {
+        private void offerNamed(Scene scene, int price, int word) {
             int numbers = Math.max(1, Words.numbers(word));
             for (int number = 0; number < numbers; number++) {
                 int code = 8 * word + number;
-                offer(scene.named(code), prices[word], code << 16);
+                offer(scene.named(code), price, code << 16);
             }
         }
 
@@ -857,8 +850,8 @@ public final class GreenDoor {
             byCost[reached++] = set;
         }
 
-        private void turn(int set) {
-            for (int word = Words.NOT_IN; word < Words.COUNT; word++) {
+        private void turn(Scene scene, int[] prices, int set) {
+            for (int word = Words.NOT_IN; word < Words.COUNT && word < prices.length; word++) {
                 if (Words.parts(word) == 1 && Words.isKnown(words, word)) {
                     int cost = costs[set] + prices[word];
                     if (cost <= dearest) {
@@ -868,37 +861,37 @@ public final class GreenDoor {
             }
         }
 
-        private void joinAll(int set) {
+        private void joinAll(int[] prices, int set) {
             for (int i = 0; i < reached && i < SETS; i++) {
                 int other = byCost[i] & 255;
                 if (costs[set] + costs[other] + leastJoin > dearest) {
                     return;
                 }
                 if (ranks[set] < ranks[other]) {
-                    joinTwo(set, other);
+                    joinTwo(prices, set, other);
                 } else {
-                    joinTwo(other, set);
+                    joinTwo(prices, other, set);
                 }
             }
         }
 
         /** Joins two sets, the first of which is the first by words. */
-        private void joinTwo(int first, int second) {
-            int cost = costs[first] + costs[second];
+        private void joinTwo(int[] prices, int first, int second) {
             if (Words.isKnown(words, Words.AND)) {
-                offerJoin(Words.AND, first, second, cost);
+                offerJoin(Words.AND, prices[Words.AND], first, second);
             }
             if (Words.isKnown(words, Words.OR)) {
-                offerJoin(Words.OR, first, second, cost);
+                offerJoin(Words.OR, prices[Words.OR], first, second);
             }
             if (Words.isKnown(words, Words.BUT)) {
-                offerJoin(Words.BUT, first, second, cost);
-                offerJoin(Words.BUT, second, first, cost);
+                offerJoin(Words.BUT, prices[Words.BUT], first, second);
+                offerJoin(Words.BUT, prices[Words.BUT], second, first);
             }
         }
 
-        private void offerJoin(int word, int first, int second, int cost) {
-            offer(Words.join(word, first, second), cost + prices[word], word << 19 | first << 8 | second);
+        private void offerJoin(int word, int price, int first, int second) {
+            int cost = price + costs[first] + costs[second];
+            offer(Words.join(word, first, second), cost, word << 19 | first << 8 | second);
         }
 
         private void offer(int set, int cost, int way) {
@@ -925,19 +918,13 @@ public final class GreenDoor {
 
     /** The mark that, put on a thing, makes the worth least. */
     private static final class BestMark {
-        private final Scene scene;
-        private final Ways trial;
+        private final Ways trial = new Ways();
         int words;
         int madeAt = NONE;
         int least;
         int mark;
 
-        BestMark(Scene scene, int[] prices) {
-            this.scene = scene;
-            this.trial = new Ways(scene, prices);
-        }
-
-        void find(int words) {
+        void find(Scene scene, int[] prices, int words) {
             this.words = words;
             least = NONE;
             mark = NONE;
@@ -945,21 +932,21 @@ public final class GreenDoor {
                 for (int m = 0; m < 3; m++) {
                     // Without the word mark each mark is worth the same, so the first one is best.
                     if (mark == NONE || Words.isKnown(words, Words.MARK)) {
-                        tryMark(i, m);
+                        tryMark(scene, prices, i, m);
                     }
                 }
             }
         }
 
-        private void tryMark(int thing, int m) {
+        private void tryMark(Scene scene, int[] prices, int thing, int m) {
             int[] marks = scene.looks[Scene.MARKS];
             if (!scene.has(thing) || (marks[thing] >> m & 1) == 1) {
                 return;
             }
             marks[thing] |= 1 << m;
-            trial.fill(words, true);
+            trial.fill(scene, prices, words, true);
             marks[thing] &= ~(1 << m);
-            int worth = trial.worthOfThings();
+            int worth = trial.worthOf(scene.things);
             if (mark == NONE || worth < least) {
                 least = worth;
                 mark = 4 * thing + m;

@@ -25,6 +25,7 @@ public final class LanguageTest {
     public static void main(String[] args) throws IOException {
         String code = withoutComments(Files.readString(FILE, StandardCharsets.US_ASCII));
         words(code);
+        makes(code);
         methods(code);
         face();
         inside();
@@ -50,6 +51,17 @@ public final class LanguageTest {
         Matcher imports = Pattern.compile("import ([^;]*);").matcher(plain);
         while (imports.find()) {
             DUE.is("import " + imports.group(1), imports.group(1).equals("java.util.Arrays") ? 1 : 0, 1);
+        }
+    }
+
+    /** Rows are made with the objects that hold them, so that no call makes any. */
+    private static void makes(String code) {
+        for (String line : code.split("\n")) {
+            if (line.contains("new ")) {
+                boolean isField = line.matches(" {4,8}(private )?final .* = new .*;");
+                boolean isShelf = line.matches(" {12}shelf\\[i\\] = new Saying\\(\\);");
+                DUE.is("made once: " + line.trim(), isField || isShelf ? 1 : 0, 1);
+            }
         }
     }
 
