@@ -4,18 +4,40 @@ import java.util.Random;
 /** Promise 13 for every set of crowded scenes: the cheapest sayings word by word, as PlainDoor finds them. */
 public final class AllSetsTest {
     private static final int SCENES = 80;
+    private static final int TIES = 12;
+    private static final int CALLS = 512;
     private static final Due DUE = new Due("AllSetsTest");
 
     public static void main(String[] args) {
         for (int scene = 0; scene < SCENES; scene++) {
-            compare(new Random(scene), 6 + scene % 3);
+            compare(scene, 6 + scene % 3);
         }
         DUE.end();
     }
 
-    private static void compare(Random random, int things) {
-        GreenDoor door = new GreenDoor();
+    private static void compare(int seed, int things) {
         PlainDoor plain = new PlainDoor();
+        make(new Random(seed), things, new GreenDoor(), plain);
+        Random random = new Random(seed);
+        int words = 1 + 2 + 8 + random.nextInt(32768) | random.nextInt(32768);
+        GreenDoor door = new GreenDoor();
+        int calls = CALLS;
+        for (int set = 0; set < 1 << things; set++) {
+            List<Integer> codes = plain.codes(set, words);
+            calls += 1 + codes.size();
+            if (calls > CALLS) {
+                door = new GreenDoor();
+                calls = make(new Random(seed), things, door, new PlainDoor()) + 1 + codes.size();
+            }
+            DUE.is("words of " + set, door.cheapest(set, words, -2), codes.isEmpty() ? -1 : codes.size());
+            for (int i = 0; i < codes.size(); i++) {
+                DUE.is("word " + i + " of " + set, door.cheapest(set, words, i), codes.get(i));
+            }
+        }
+    }
+
+    /** Makes the same scene in both; how many calls that took of each. */
+    private static int make(Random random, int things, GreenDoor door, PlainDoor plain) {
         for (int i = 0; i < things; i++) {
             int kind = random.nextInt(4);
             int colour = random.nextInt(4);
@@ -27,7 +49,7 @@ public final class AllSetsTest {
             door.paint(i, 3, marks);
             plain.paint(i, 3, marks);
         }
-        for (int i = 0; i < 12; i++) {
+        for (int i = 0; i < TIES; i++) {
             int from = random.nextInt(things);
             int to = random.nextInt(things);
             door.tie(from, to);
@@ -38,13 +60,6 @@ public final class AllSetsTest {
             door.price(word, price);
             plain.price(word, price);
         }
-        int words = 1 + 2 + 8 + random.nextInt(32768) | random.nextInt(32768);
-        for (int set = 0; set < 1 << things; set++) {
-            List<Integer> codes = plain.codes(set, words);
-            DUE.is("words of " + set, door.cheapest(set, words, -2), codes.isEmpty() ? -1 : codes.size());
-            for (int i = 0; i < codes.size(); i++) {
-                DUE.is("word " + i + " of " + set, door.cheapest(set, words, i), codes.get(i));
-            }
-        }
+        return 2 * things + TIES + 15;
     }
 }

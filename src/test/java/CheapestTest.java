@@ -141,34 +141,42 @@ public final class CheapestTest {
         return d;
     }
 
-    /** Each cheapest saying that a text can hold, told as one, means its set at its cost. */
-    private static void toldAsTexts() {
+    private static GreenDoor pricedCrowd() {
         GreenDoor d = crowd();
         for (int word = 0; word < 15; word++) {
             d.price(word, 1 + word * 5 % 7);
         }
+        return d;
+    }
+
+    /** Each cheapest saying that a text can hold, told as one, means its set at its cost. */
+    private static void toldAsTexts() {
         int told = 0;
         for (int words = ALL_WORDS; words > 0; words -= 3001) {
             for (int set = 0; set < 256; set++) {
+                GreenDoor d = pricedCrowd();
                 int length = d.cheapest(set, words, -2);
-                if (length < 0 || length > 24) {
-                    continue;
+                if (length > 0 && length <= 24) {
+                    toldAsText(d, set, words, length);
+                    told++;
                 }
-                StringBuilder text = new StringBuilder();
-                for (int i = 0; i < length; i++) {
-                    int code = d.cheapest(set, words, i);
-                    text.append(PlainDoor.NAMES.get(code / 8)).append(' ');
-                    text.append(code >= 8 && code < 32 ? code % 8 + " " : "");
-                    DUE.is("promise 13: a word that is known", words >> code / 8 & 1, 1);
-                }
-                Due.tell(d, text.toString());
-                DUE.is("promise 13: '" + text + "' means", d.says(0), set);
-                DUE.is("promise 13: '" + text + "' costs", d.says(1), d.cheapest(set, words, -1));
-                DUE.is("promise 13: '" + text + "' words", d.says(2), length);
-                told++;
             }
         }
         DUE.is("promise 13: many were told", told > 1000 ? 1 : 0, 1);
+    }
+
+    private static void toldAsText(GreenDoor d, int set, int words, int length) {
+        StringBuilder text = new StringBuilder();
+        for (int i = 0; i < length; i++) {
+            int code = d.cheapest(set, words, i);
+            text.append(PlainDoor.NAMES.get(code / 8)).append(' ');
+            text.append(code >= 8 && code < 32 ? code % 8 + " " : "");
+            DUE.is("promise 13: a word that is known", words >> code / 8 & 1, 1);
+        }
+        Due.tell(d, text.toString());
+        DUE.is("promise 13: '" + text + "' means", d.says(0), set);
+        DUE.is("promise 13: '" + text + "' costs", d.says(1), d.cheapest(set, words, -1));
+        DUE.is("promise 13: '" + text + "' words", d.says(2), length);
     }
 
     /** Ties in a ring with a short cut: sayings of many more words than a text may have. */

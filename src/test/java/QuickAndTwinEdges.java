@@ -200,6 +200,23 @@ final class QuickAndTwinEdges {
         sorts.paint(3, 0, 1);
         twin(sorts, 1, 0, 0, 2);
         twin(sorts, 3, 2, 0, 2);
+        tiedToOneSort(0, 1, 2);
+        tiedToOneSort(2, 1, 0);
+        tiedToOneSort(1, 0, 2);
+    }
+
+    /** Two alike, till one of them is tied to the only one of another sort. */
+    private void tiedToOneSort(int alone, int one, int other) {
+        for (int way = 0; way < 2; way++) {
+            GreenDoor d = new GreenDoor();
+            Edges.alike(d, 0, 2, 4);
+            d.paint(alone, 1, 3);
+            e.is("alike are " + one + " and " + other, d.twin(one, 2), 2);
+            e.is("a tie", way == 0 ? d.tie(one, alone) : d.tie(alone, other), 1);
+            twin(d, one, one, 1, 3);
+            twin(d, other, other, 1, 3);
+            e.is("the one that stood alone from the first on", d.twin(alone, 1), 0);
+        }
     }
 
     /** Eight things of one look such that each round parts but one sort into two: seven rounds, the most there can be. */

@@ -4,6 +4,8 @@ import java.util.Random;
 public final class RandomRunsTest {
     private static final int RUNS = 150;
     private static final int CALLS = 512;
+    // A step is not begun if it might make a call more than an object may be used for.
+    private static final int CALLS_OF_A_STEP = 60;
     private static final int[] WILD = {Integer.MIN_VALUE, -5, -3, -2, -1, 0, 1, 2, 3, 4, 7, 8, 9, 15, 16, 20, 21, 24,
         255, 256, 32767, 32768, Integer.MAX_VALUE};
 
@@ -46,7 +48,7 @@ public final class RandomRunsTest {
         }
         // What is dear to compare is asked less often in larger scenes.
         int dear = most > 6 ? 25 : most > 4 ? 6 : 1;
-        while (calls < CALLS && !due.anyWrong()) {
+        while (calls <= CALLS - CALLS_OF_A_STEP && !due.anyWrong()) {
             int sort = random.nextInt(100);
             if (sort < 30) {
                 changeScene();

@@ -289,6 +289,16 @@ final class TextEdges {
         GreenDoor d = new GreenDoor();
         d.fault();
         e.is("the empty text stays", d.count(2), 0);
+        for (String faulty : new String[] {"kind", "mark x", "and all", "all all", NOTS + "not"}) {
+            Due.tell(d, faulty);
+            e.is("'" + faulty + "' has a fault", d.fault() == NONE ? 1 : 0, 0);
+            Due.tell(d, "all");
+            e.is("a text behind '" + faulty + "' has none", d.fault(), NONE);
+        }
+        Due.tell(d, "kind");
+        e.is("a text that ends too soon", d.fault(), 4);
+        Due.append(d, " 0");
+        e.is("is mended by what comes behind", d.fault(), NONE);
     }
 
     private void costs() {
