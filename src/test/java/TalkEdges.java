@@ -3,7 +3,7 @@ final class TalkEdges {
     private static final int NONE = GreenDoor.NONE, UNKNOWN = GreenDoor.UNKNOWN, OUTSIDE = GreenDoor.OUTSIDE;
     private static final int FULL = GreenDoor.FULL;
     private static final int LOW = Integer.MIN_VALUE, HIGH = Integer.MAX_VALUE;
-    private static final int ALL_WORDS = 32767, ALL = 1, KIND = 2, MARK = 8, TIED = 512;
+    private static final int ALL_WORDS = 32767, ALL = 1, KIND = 2, MARK = 8, AND = 32, TIED = 512;
 
     private final Edges e;
 
@@ -20,6 +20,7 @@ final class TalkEdges {
         leastCost();
         talkAnswers();
         withoutCounts();
+        tooDear();
         bestMark();
         worthAnswers();
         worthRefused();
@@ -170,6 +171,46 @@ final class TalkEdges {
             e.is("one costs " + (mark + 45), ring.cheapest(8, MARK + TIED, -1), mark + 45);
             e.is("which counts", ring.worth(MARK + TIED, 0), 8 * mark + 28 * 9);
             e.is("seven are without", ring.worth(MARK, 0), mark + 7 * 50);
+        }
+    }
+
+    /** Eight things, the fourth of which is said by mark, and, tied in no less than 75, 74 and 100 words. */
+    private static GreenDoor knot(int mark, int and, int tied) {
+        GreenDoor d = new GreenDoor();
+        Edges.alike(d, 0, 2, 4, 6, 8, 10, 12, 14);
+        int[][] ties = {{1, 5, 7}, {2, 3, 5, 6}, {0, 3, 4, 6}, {0, 5, 6}, {0, 1, 2, 3, 5}, {2, 3, 5, 6},
+            {0, 3, 4, 5, 6, 7}, {2, 4, 5, 6}};
+        for (int from = 0; from < 8; from++) {
+            for (int to : ties[from]) {
+                d.tie(from, to);
+            }
+        }
+        for (int marked : new int[] {0, 2, 6}) {
+            d.paint(marked, 3, 1);
+        }
+        d.price(3, mark);
+        d.price(5, and);
+        d.price(9, tied);
+        return d;
+    }
+
+    private void tooDear() {
+        e.sentence(24, "one that costs more than 999 is none.");
+        int words = MARK + AND + TIED;
+        talk(knot(3, 1, 7), words, 999, 3);
+        talk(knot(3, 1, 7), words, 999 + 1, 3, 3);
+        talk(knot(3, 2, 7), words, NONE, 3);
+        talk(knot(3, 2, 7), words, NONE, 3, 3);
+        e.sentence(25, "one that costs more than 999 is none.");
+        for (int and = 1; and <= 2; and++) {
+            GreenDoor d = knot(3, and, 7);
+            e.is("the fourth thing costs", d.cheapest(8, words, -1), and == 1 ? 999 : NONE);
+            int worth = 0;
+            for (int i = 0; i < 8; i++) {
+                int cost = d.cheapest(1 << i, words, -1);
+                worth += cost == NONE ? 50 : cost;
+            }
+            e.is("worth", d.worth(words, 0), worth);
         }
     }
 
