@@ -867,31 +867,25 @@ public final class GreenDoor {
                 if (costs[set] + costs[other] + leastJoin > dearest) {
                     return;
                 }
-                if (ranks[set] < ranks[other]) {
-                    joinTwo(prices, set, other);
-                } else {
-                    joinTwo(prices, other, set);
-                }
+                boolean isFirst = ranks[set] < ranks[other];
+                joinTwo(prices, isFirst ? set : other, isFirst ? other : set);
             }
         }
 
         /** Joins two sets, the first of which is the first by words. */
         private void joinTwo(int[] prices, int first, int second) {
+            int cost = costs[first] + costs[second];
+            int way = first << 8 | second;
             if (Words.isKnown(words, Words.AND)) {
-                offerJoin(Words.AND, prices[Words.AND], first, second);
+                offer(first & second, cost + prices[Words.AND], Words.AND << 19 | way);
             }
             if (Words.isKnown(words, Words.OR)) {
-                offerJoin(Words.OR, prices[Words.OR], first, second);
+                offer(first | second, cost + prices[Words.OR], Words.OR << 19 | way);
             }
             if (Words.isKnown(words, Words.BUT)) {
-                offerJoin(Words.BUT, prices[Words.BUT], first, second);
-                offerJoin(Words.BUT, prices[Words.BUT], second, first);
+                offer(first & ~second, cost + prices[Words.BUT], Words.BUT << 19 | way);
+                offer(second & ~first, cost + prices[Words.BUT], Words.BUT << 19 | second << 8 | first);
             }
-        }
-
-        private void offerJoin(int word, int price, int first, int second) {
-            int cost = price + costs[first] + costs[second];
-            offer(Words.join(word, first, second), cost, word << 19 | first << 8 | second);
         }
 
         private void offer(int set, int cost, int way) {
